@@ -389,11 +389,13 @@ public final class VaneTown {
         if (what < 0 || what > 1) {
             return none(NO_NUMBER);
         }
-        look();
-        if (!works.comesAgain(MOST_AHEAD)) {
+        // With each turn the gaps of all vanes, weighed by their winds, come to less (what is for it
+        // is more than what is against), so that nothing comes again but by standing still.
+        int quarters = quartersToCalm();
+        if (quarters == NONE) {
             return none(NONE_SUCH);
         }
-        return answer(what == 0 ? works.cycleStart : works.period);
+        return answer(what == 0 ? quarters : 1);
     }
 
     public int strikes(int vane, int quarters) {
@@ -484,9 +486,8 @@ public final class VaneTown {
     }
 
     public int calmed() {
-        look();
-        int quarters = works.goOn(MOST_AHEAD);
-        return quarters == MOST_AHEAD ? none(NONE_SUCH) : answer(quarters);
+        int quarters = quartersToCalm();
+        return quarters == NONE ? none(NONE_SUCH) : answer(quarters);
     }
 
     public int teeth(int quarters) {
@@ -782,6 +783,12 @@ public final class VaneTown {
     private void look() {
         sight.copyFrom(now.state);
         works.use(now.plan, sight);
+    }
+
+    private int quartersToCalm() {
+        look();
+        int quarters = works.goOn(MOST_AHEAD);
+        return quarters == MOST_AHEAD ? NONE : quarters;
     }
 
     private int rightsBehind(int quarters) {
@@ -1567,10 +1574,6 @@ public final class VaneTown {
         int bells;
         private int soughtBell;
         int ringer;
-        int cycleStart;
-        int period;
-        private final long[] pointsSeen = new long[MOST_AHEAD + 1];
-        private final long[] playSeen = new long[MOST_AHEAD + 1];
 
         void use(Plan ofPlan, State ofState) {
             plan = ofPlan;
@@ -1817,57 +1820,6 @@ public final class VaneTown {
                 sum += wrong;
             }
             return sum;
-        }
-
-        boolean comesAgain(int quarters) {
-            int last = Math.min(quarters, MOST_AHEAD);
-            for (int q = 0; q < last; q++) {
-                remember(q);
-                if (!quarterTurnsAnything()) {
-                    cycleStart = q;
-                    period = 1;
-                    return true;
-                }
-            }
-            remember(last);
-            return findCycle(last);
-        }
-
-        /**
-         * What is at the last is on the cycle, if there is one so far: how far back it was there
-         * before is the period.
-         */
-        private boolean findCycle(int last) {
-            int before = last - 1;
-            while (before >= 0 && !isSame(before, last)) {
-                before--;
-            }
-            if (before < 0) {
-                return false;
-            }
-            period = last - before;
-            cycleStart = 0;
-            while (cycleStart < before && !isSame(cycleStart, cycleStart + period)) {
-                cycleStart++;
-            }
-            return true;
-        }
-
-        private void remember(int quarter) {
-            long points = 0;
-            for (int v = 0; v < plan.vanes; v++) {
-                points = points << 6 | state.points[v];
-            }
-            long play = 0;
-            for (int s = 0; s < plan.shafts; s++) {
-                play = play << 4 | state.play[s];
-            }
-            pointsSeen[quarter] = points;
-            playSeen[quarter] = play;
-        }
-
-        private boolean isSame(int a, int b) {
-            return pointsSeen[a] == pointsSeen[b] && playSeen[a] == playSeen[b];
         }
     }
 
