@@ -223,7 +223,7 @@ public final class VaneTown {
             case 1:
                 return answer(now.plan.second[shaft]);
             case 2:
-                return answer(now.plan.belt[shaft]);
+                return answer(now.plan.sense[shaft] == Plan.SAME_WAY ? 1 : 0);
             case 3:
                 return answer(now.plan.slack[shaft]);
             case 4:
@@ -238,7 +238,7 @@ public final class VaneTown {
             return none(NO_NUMBER);
         }
         workOnNow();
-        int wanted = works.wanted(vane);
+        int wanted = works.wanted[vane];
         return wanted == NONE ? none(NONE_SUCH) : answer(wanted);
     }
 
@@ -507,7 +507,7 @@ public final class VaneTown {
         int most = -1;
         for (int d = 0; d < DIRECTIONS; d++) {
             look();
-            sight.blowEverywhere(d, strong);
+            works.blowEverywhere(d, strong);
             int many = rightsBehind(ahead);
             if (many > most) {
                 most = many;
@@ -799,7 +799,7 @@ public final class VaneTown {
     private int leavingWinds(int strong) {
         int winds = 0;
         for (int d = 0; d < DIRECTIONS; d++) {
-            sight.blowEverywhere(d, strong);
+            works.blowEverywhere(d, strong);
             if (works.firstDriven() == NONE) {
                 winds = with(winds, d, true);
             }
@@ -888,6 +888,10 @@ public final class VaneTown {
 
     /** What a VILLAGE's text says, none of which changes until another text is taken. */
     private static final class Plan {
+        // How the two vanes of a belt turn, and those of a gear.
+        static final int SAME_WAY = 1;
+        static final int CONTRARY = -1;
+
         int places;
         int vanes;
         int shafts;
@@ -900,7 +904,7 @@ public final class VaneTown {
         final int[] start = new int[MOST_VANES];
         final int[] first = new int[MOST_SHAFTS];
         final int[] second = new int[MOST_SHAFTS];
-        final int[] belt = new int[MOST_SHAFTS];
+        final int[] sense = new int[MOST_SHAFTS];
         final int[] slack = new int[MOST_SHAFTS];
 
         void clear() {
@@ -925,11 +929,6 @@ public final class VaneTown {
             return placeNamed(name) != NONE || vaneNamed(name) != NONE || shaftNamed(name) != NONE;
         }
 
-        /** A belt turns its vanes the same way round, a gear contrary. */
-        int sense(int shaft) {
-            return belt[shaft] == 1 ? 1 : -1;
-        }
-
         void copyFrom(Plan other) {
             places = other.places;
             vanes = other.vanes;
@@ -943,7 +942,7 @@ public final class VaneTown {
             System.arraycopy(other.start, 0, start, 0, MOST_VANES);
             System.arraycopy(other.first, 0, first, 0, MOST_SHAFTS);
             System.arraycopy(other.second, 0, second, 0, MOST_SHAFTS);
-            System.arraycopy(other.belt, 0, belt, 0, MOST_SHAFTS);
+            System.arraycopy(other.sense, 0, sense, 0, MOST_SHAFTS);
             System.arraycopy(other.slack, 0, slack, 0, MOST_SHAFTS);
         }
 
@@ -1165,9 +1164,9 @@ public final class VaneTown {
             if (i >= length) {
                 kind = END_OF_TEXT;
                 next = length;
-            } else if (isLetter(tape[i])) {
+            } else if (tape[i] >= 'a' && tape[i] <= 'z') {
                 scanWord();
-            } else if (isDigit(tape[i])) {
+            } else if (tape[i] >= '0' && tape[i] <= '9') {
                 scanNumber();
             } else {
                 sign = tape[i];
@@ -1179,7 +1178,7 @@ public final class VaneTown {
         private void scanWord() {
             int i = at;
             word = 0;
-            while (i < length && isLetter(tape[i])) {
+            while (i < length && tape[i] >= 'a' && tape[i] <= 'z') {
                 word = word << 8 | tape[i];
                 i++;
             }
@@ -1198,21 +1197,13 @@ public final class VaneTown {
         private void scanNumber() {
             int i = at;
             number = 0;
-            while (i < length && isDigit(tape[i])) {
+            while (i < length && tape[i] >= '0' && tape[i] <= '9') {
                 // Only numbers of few digits are used, so that what more digits do here is no matter.
                 number = number * 10 + tape[i] - '0';
                 i++;
             }
             next = i;
             kind = next - at > MOST_DIGITS ? NO_TOKEN : NUMBER;
-        }
-
-        private static boolean isLetter(int c) {
-            return c >= 'a' && c <= 'z';
-        }
-
-        private static boolean isDigit(int c) {
-            return c >= '0' && c <= '9';
         }
 
         private static boolean isSign(int c) {
@@ -1388,7 +1379,7 @@ public final class VaneTown {
 
         private boolean readShaft() {
             int s = plan.shafts;
-            plan.belt[s] = text.keyword == Text.BELT ? 1 : 0;
+            plan.sense[s] = text.keyword == Text.BELT ? Plan.SAME_WAY : Plan.CONTRARY;
             text.advance();
             plan.shaftNames[s] = text.word;
             if (!text.takeNewName(plan) || !text.takeKeyword(Text.OF) || !text.takeVane(plan)) {
@@ -1460,7 +1451,8 @@ public final class VaneTown {
             }
             int row = steps.rows;
             text.advance();
-            if (!readNumbers(word, row) || !text.takeSemicolon()) {
+            boolean isRead = word == Text.WHEN ? readTest(row) : readNumbers(word, row);
+            if (!isRead || !text.takeSemicolon()) {
                 return false;
             }
             addRow(word);
@@ -1529,8 +1521,6 @@ public final class VaneTown {
                 case Text.TURN:
                     return text.takeVane(plan) && keepWhat(row)
                             && text.takeNumber(1, 99) && keepMuch(row);
-                case Text.WHEN:
-                    return readTest(row);
                 default:
                     return true;
             }
@@ -1568,6 +1558,8 @@ public final class VaneTown {
     private static final class Works {
         private Plan plan;
         private State state;
+        /** The tooth that its wind asks of each vane, or NONE at calm. */
+        final int[] wanted = new int[MOST_VANES];
         private final int[] step = new int[MOST_VANES];
         int moving;
         int teethMoved;
@@ -1581,6 +1573,7 @@ public final class VaneTown {
             teethMoved = 0;
             bells = 0;
             listenFor(NONE);
+            aim();
         }
 
         void listenFor(int bell) {
@@ -1588,24 +1581,32 @@ public final class VaneTown {
             ringer = NONE;
         }
 
-        private int strongFor(int vane) {
-            return state.strong[plan.home[vane]];
+        void blow(int place, int direction, int strong) {
+            state.from[place] = direction;
+            state.strong[place] = strong;
+            aim();
         }
 
-        /** The tooth that the wind asks for, or NONE at calm. */
-        int wanted(int vane) {
-            int place = plan.home[vane];
-            if (state.strong[place] == 0) {
-                return NONE;
+        void blowEverywhere(int direction, int strong) {
+            state.blowEverywhere(direction, strong);
+            aim();
+        }
+
+        private void aim() {
+            for (int v = 0; v < plan.vanes; v++) {
+                int teeth = plan.teeth[v];
+                int place = plan.home[v];
+                int tooth = (teeth * state.from[place] + DIRECTIONS / 2) / DIRECTIONS;
+                if (state.strong[place] == 0) {
+                    wanted[v] = NONE;
+                } else {
+                    wanted[v] = tooth >= teeth ? 0 : tooth;
+                }
             }
-            int teeth = plan.teeth[vane];
-            int tooth = (teeth * state.from[place] + DIRECTIONS / 2) / DIRECTIONS;
-            return tooth >= teeth ? 0 : tooth;
         }
 
         boolean isRight(int vane) {
-            int wanted = wanted(vane);
-            return wanted == NONE || wanted == state.points[vane];
+            return wanted[vane] == NONE || wanted[vane] == state.points[vane];
         }
 
         int rightSet() {
@@ -1616,22 +1617,21 @@ public final class VaneTown {
             return set;
         }
 
-        private int toTheRight(int from, int to, int teeth) {
-            return to >= from ? to - from : to - from + teeth;
-        }
-
-        private int gapFrom(int vane, int tooth, int wanted) {
-            int right = toTheRight(tooth, wanted, plan.teeth[vane]);
-            return Math.min(right, plan.teeth[vane] - right);
+        private int gap(int vane, int tooth) {
+            int apart = tooth < wanted[vane] ? wanted[vane] - tooth : tooth - wanted[vane];
+            int roundAbout = plan.teeth[vane] - apart;
+            return apart < roundAbout ? apart : roundAbout;
         }
 
         int gapNow(int vane) {
-            int wanted = wanted(vane);
-            return wanted == NONE ? 0 : gapFrom(vane, state.points[vane], wanted);
+            return wanted[vane] == NONE ? 0 : gap(vane, state.points[vane]);
         }
 
         int shorterWay(int vane) {
-            int right = toTheRight(state.points[vane], wanted(vane), plan.teeth[vane]);
+            int right = wanted[vane] - state.points[vane];
+            if (right < 0) {
+                right += plan.teeth[vane];
+            }
             return right <= plan.teeth[vane] - right ? 1 : -1;
         }
 
@@ -1650,45 +1650,40 @@ public final class VaneTown {
             }
             step[vane] = tooth;
             moving = 1 << vane;
-            boolean isDragging = true;
-            for (int round = 0; round < MOST_VANES && isDragging; round++) {
-                isDragging = dragsOneMore();
+            int shaft = draggingShaft();
+            for (int round = 0; round < MOST_VANES && shaft != NONE; round++) {
+                int a = plan.first[shaft];
+                int b = plan.second[shaft];
+                int along = plan.sense[shaft] * (step[a] + step[b]);
+                int other = step[a] == 0 ? a : b;
+                step[other] = along;
+                moving |= 1 << other;
+                shaft = draggingShaft();
             }
-            return (moving & state.held) == 0 && allPlayIsInBounds();
+            return (moving & state.held) == 0 && isAllPlayInBounds();
         }
 
-        private boolean dragsOneMore() {
+        private int draggingShaft() {
             for (int s = 0; s < plan.shafts; s++) {
-                int a = plan.first[s];
-                int b = plan.second[s];
-                boolean isOneAlone = (step[a] == 0) != (step[b] == 0);
-                if (isOneAlone && !has(state.lifted, s) && !isInBounds(s)) {
-                    dragAlong(step[a] == 0 ? a : b, plan.sense(s) * (step[a] + step[b]));
-                    return true;
+                boolean isOneAlone = (step[plan.first[s]] == 0) != (step[plan.second[s]] == 0);
+                if (isOneAlone && !has(state.lifted, s) && !isInBounds(s, state.play[s] + playChange(s))) {
+                    return s;
                 }
             }
-            return false;
+            return NONE;
         }
 
-        private void dragAlong(int vane, int tooth) {
-            step[vane] = tooth;
-            moving |= 1 << vane;
+        private int playChange(int shaft) {
+            return step[plan.first[shaft]] - plan.sense[shaft] * step[plan.second[shaft]];
         }
 
-        private int playBehindStep(int shaft) {
-            // What drags along by a shaft undoes in its play just what the first one does.
-            return state.play[shaft] + step[plan.first[shaft]]
-                    - plan.sense(shaft) * step[plan.second[shaft]];
-        }
-
-        private boolean isInBounds(int shaft) {
-            int play = playBehindStep(shaft);
+        private boolean isInBounds(int shaft, int play) {
             return play >= 0 && play <= plan.slack[shaft];
         }
 
-        private boolean allPlayIsInBounds() {
+        private boolean isAllPlayInBounds() {
             for (int s = 0; s < plan.shafts; s++) {
-                if (!has(state.lifted, s) && !isInBounds(s)) {
+                if (!has(state.lifted, s) && !isInBounds(s, state.play[s] + playChange(s))) {
                     return false;
                 }
             }
@@ -1698,7 +1693,7 @@ public final class VaneTown {
         private void move() {
             for (int s = 0; s < plan.shafts; s++) {
                 if (!has(state.lifted, s)) {
-                    state.play[s] = playBehindStep(s);
+                    state.play[s] += playChange(s);
                 }
             }
             for (int v = 0; v < plan.vanes; v++) {
@@ -1721,14 +1716,12 @@ public final class VaneTown {
             }
         }
 
-        /** 1 if a vane that moves comes nearer to what it wants, -1 if farther, 0 for neither. */
+        /** By how many teeth (1, 0 or -1) one that moves comes nearer to what it wants. */
         private int gain(int vane) {
-            int wanted = wanted(vane);
-            if (wanted == NONE) {
+            if (wanted[vane] == NONE) {
                 return 0;
             }
-            int before = gapFrom(vane, state.points[vane], wanted);
-            return Integer.compare(before, gapFrom(vane, toothBehindStep(vane), wanted));
+            return gap(vane, state.points[vane]) - gap(vane, toothBehindStep(vane));
         }
 
         int comingNearer(int vane) {
@@ -1753,11 +1746,12 @@ public final class VaneTown {
             return engage(vane, shorterWay(vane)) && force() > 0;
         }
 
+        /** What is for it less what is against it: the one that drags always comes nearer itself. */
         private int force() {
             int force = 0;
             for (int v = 0; v < plan.vanes; v++) {
                 if (has(moving, v)) {
-                    force += gain(v) * strongFor(v) - plan.stiff[v];
+                    force += gain(v) * state.strong[plan.home[v]] - plan.stiff[v];
                 }
             }
             return force;
@@ -1772,24 +1766,19 @@ public final class VaneTown {
             return NONE;
         }
 
-        private boolean quarterTurnsAnything() {
-            boolean turns = false;
-            for (int v = 0; v < plan.vanes; v++) {
-                if (isDriven(v)) {
-                    move();
-                    turns = true;
-                }
-            }
-            return turns;
-        }
-
         /**
          * So many quarters, or those ahead of the first in which nothing turns (all behind it are
          * like it): how many these are.
          */
         int goOn(int quarters) {
             for (int q = 0; q < quarters; q++) {
-                if (!quarterTurnsAnything()) {
+                int before = teethMoved;
+                for (int v = 0; v < plan.vanes; v++) {
+                    if (isDriven(v)) {
+                        move();
+                    }
+                }
+                if (teethMoved == before) {
                     return q;
                 }
             }
@@ -1812,9 +1801,9 @@ public final class VaneTown {
         int wrongQuarters(int set, int quarters) {
             int sum = 0;
             for (int q = 0; q < quarters; q++) {
-                boolean turns = quarterTurnsAnything();
+                boolean isStill = goOn(1) == 0;
                 int wrong = Integer.bitCount(set & ~rightSet());
-                if (!turns) {
+                if (isStill) {
                     return sum + wrong * (quarters - q);
                 }
                 sum += wrong;
@@ -1862,7 +1851,7 @@ public final class VaneTown {
                 if (has(lifted, s)) {
                     continue;
                 }
-                int ofSide = side[vane] * plan.sense(s);
+                int ofSide = side[vane] * plan.sense[s];
                 if (plan.first[s] == vane) {
                     find(plan.second[s], ofSide);
                 } else if (plan.second[s] == vane) {
@@ -1891,7 +1880,7 @@ public final class VaneTown {
             for (int s = 0; s < plan.shafts; s++) {
                 int a = plan.first[s];
                 int b = plan.second[s];
-                if (!has(lifted, s) && has(found, a) && side[a] * plan.sense(s) != side[b]) {
+                if (!has(lifted, s) && has(found, a) && side[a] * plan.sense[s] != side[b]) {
                     return true;
                 }
             }
@@ -1970,8 +1959,17 @@ public final class VaneTown {
             done = 0;
             isCut = false;
             int row = 0;
-            for (int r = 0; r < MOST_ROWS_DONE && row < steps.rows && !isCut; r++) {
-                row = steps.kind[row] == Text.END ? rowBehindEnd(row) : rowBehindStep(row);
+            for (int r = 0; r < MOST_ROWS_DONE && row < steps.rows; r++) {
+                if (steps.kind[row] == Text.END) {
+                    row = rowBehindEnd(row);
+                } else if (done < MOST_STEPS) {
+                    done++;
+                    perform(row);
+                    row = rowBehindStep(row);
+                } else {
+                    isCut = true;
+                    row = steps.rows;
+                }
             }
         }
 
@@ -1996,23 +1994,13 @@ public final class VaneTown {
         }
 
         private int rowBehindStep(int row) {
-            if (done >= MOST_STEPS) {
-                isCut = true;
-                return row;
+            if (steps.kind[row] == Text.STOP) {
+                return steps.rows;
             }
-            done++;
-            switch (steps.kind[row]) {
-                case Text.WHEN:
-                    return isSo(row) ? row + 1 : steps.partner[row] + 1;
-                case Text.LOOP:
-                    rounds[row] = steps.much[row];
-                    return row + 1;
-                case Text.STOP:
-                    return steps.rows;
-                default:
-                    perform(row);
-                    return row + 1;
+            if (steps.kind[row] == Text.WHEN && !isSo(row)) {
+                return steps.partner[row] + 1;
             }
+            return row + 1;
         }
 
         private boolean isSo(int row) {
@@ -2035,8 +2023,7 @@ public final class VaneTown {
             int much = steps.much[row];
             switch (steps.kind[row]) {
                 case Text.WIND:
-                    state.from[what] = steps.how[row];
-                    state.strong[what] = much;
+                    works.blow(what, steps.how[row], much);
                     break;
                 case Text.GUST:
                     drawWinds(much);
@@ -2053,8 +2040,13 @@ public final class VaneTown {
                 case Text.FREE:
                     state.held = with(state.held, what, steps.kind[row] == Text.HOLD);
                     break;
-                default:
+                case Text.TURN:
                     works.turnByHand(what, much);
+                    break;
+                case Text.LOOP:
+                    rounds[row] = much;
+                    break;
+                default:
                     break;
             }
         }
@@ -2062,8 +2054,7 @@ public final class VaneTown {
         private void drawWinds(int strong) {
             for (int p = 0; p < plan.places; p++) {
                 drawn = (drawn * 2683 + 11587) % 65536;
-                state.from[p] = drawn / 8 % 16;
-                state.strong[p] = strong;
+                works.blow(p, drawn / 8 % DIRECTIONS, strong);
             }
         }
     }
