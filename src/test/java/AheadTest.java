@@ -243,6 +243,17 @@ public final class AheadTest {
         x.lift(1, true);
         x.hold(1, true);
         Check.refuses(x, "no more than without", x.mending(400), 6);
+        x = Check.town(PAIR + "vane c teeth 8 at q;belt g of a b;belt h of b c;");
+        x.wind(0, 4, 99);
+        x.wind(1, 12, 1);
+        Check.gives(x, "two come free by the first, one by the second", x.mending(9), 0);
+        x = Check.town(PAIR + "vane c teeth 8 at q;belt g of b c;belt h of a b;");
+        x.wind(0, 4, 99);
+        x.wind(1, 12, 1);
+        Check.gives(x, "one comes free by the first, two by the second", x.mending(9), 1);
+        x.hold(1, true);
+        x.wind(0, 0, 99);
+        Check.gives(x, "c alone", x.mending(9), 0);
         Check.refuses(x, "mending(-1)", x.mending(-1), 1);
         Check.refuses(x, "mending(401)", x.mending(401), 1);
     }

@@ -269,5 +269,9 @@ public final class DoneTest {
         Check.gives(x, "play", x.shaft(2, 4), 4);
         Check.refuses(x, "1 left", x.drags(0, 1), 7);
         Check.gives(x, "back", x.turn(2, -9), 2);
+        x = Check.town(three + "gear g of a b slack 5;gear h of b c;gear i of c a;");
+        Check.refuses(x, "below 0", x.drags(2, 1), 7);
+        Check.gives(x, "5 of slack in the first", x.turn(2, -9), 2);
+        Check.gives(x, "its play", x.shaft(0, 4), 4);
     }
 }

@@ -135,6 +135,8 @@ public final class JoinsTest {
         Check.gives(x, "one of two", x.parting(), 2 + 4 + 8 + 32);
         x.lift(3, true);
         Check.gives(x, "not those lifted", x.parting(), 2 + 4 + 32);
+        x = Check.town(FIVE + "gear g of a b;gear h of c d;");
+        Check.gives(x, "each", x.parting(), 3);
         Check.gives(x, "of nothing", new VaneTown().parting(), 0);
     }
 }

@@ -6,6 +6,7 @@ public final class MarksTest {
         atMostThree();
         allIsTakenBack();
         anotherVillage();
+        ordersOfAllKinds();
         whatStays();
         Check.end("MarksTest");
     }
@@ -85,6 +86,23 @@ public final class MarksTest {
         Check.ordersTaken(x, "hold a;lift h;wind q 0 0;", 3);
         Check.gives(x, "slack", x.shaft(0, 3), 1);
         Check.gives(x, "teeth", x.vane(1, 0), 8);
+    }
+
+    private static void ordersOfAllKinds() {
+        VaneTown x = Check.town(PAIR);
+        Check.ordersTaken(x, "loop 2;wind p 4 9;wait 9;when points a<3;turn a 1;end;end;lift h;hold a;turn b 3;", 8);
+        Check.gives(x, "as it is", x.run(0), 12);
+        Check.gives(x, "a", x.ranTo(0), 3);
+        Check.gives(x, "b", x.ranTo(1), 6);
+        x.mark();
+        for (int i = 0; i < 2; i++) {
+            Check.ordersTaken(x, "wait 1;wind q 8 1;when right b;wait 1;wait 1;loop 3;end;end;wait 5;wait 6;", 8);
+        }
+        Check.gives(x, "others", x.run(0), 5);
+        Check.gives(x, "back", x.back(), 0);
+        Check.gives(x, "as it was", x.run(0), 12);
+        Check.gives(x, "a", x.ranTo(0), 3);
+        Check.gives(x, "b", x.ranTo(1), 6);
     }
 
     private static void whatStays() {

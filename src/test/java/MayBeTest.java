@@ -124,6 +124,10 @@ public final class MayBeTest {
         Check.gives(x, "h", x.broken(1, 2), 2);
         see(x, 1, 1, 1, 1, 2, 2, 2);
         Check.gives(x, "no way", x.broken(1, 2), 0);
+        see(x, 1, 0, 1, 2, 2, 2, 1);
+        Check.gives(x, "a elsewhere in the first row", x.whole(1, 2), 0);
+        see(x, 1, 1, 1, 2, 2, 2, 0);
+        Check.gives(x, "c elsewhere in the last row", x.whole(1, 2), 0);
         Check.gives(x, "what is lifted stays", x.told(4), 4);
         Check.gives(x, "nothing was turned", x.vane(0, 3), 0);
     }

@@ -74,9 +74,9 @@ public final class OrdersTest {
 
     private static void stepsLiftAndHold() {
         VaneTown x = Check.town(PAIR);
-        Check.ordersTaken(x, "lift h;turn a 3;lower h;turn a 3;", 4);
+        Check.ordersTaken(x, "lift h;turn a 4;lower h;turn a 3;", 4);
         Check.gives(x, "run", x.run(0), 4);
-        ranTo(x, "lifted for 3, 1 of slack", 6, 2);
+        ranTo(x, "lifted for 4, 1 of slack", 7, 2);
         Check.ordersTaken(x, "hold b;turn a 3;free b;turn a 3;", 4);
         Check.gives(x, "run", x.run(0), 4);
         ranTo(x, "held for 1 of 3", 4, 3);

@@ -1,9 +1,11 @@
 /** Promises 9 to 17: the tape, the VILLAGE and the ORDERS as texts, what they tell. */
 public final class TextsTest {
     private static final String TWO = "place p;place q;vane a teeth 8 at p;vane b teeth 12 at q;gear g of a b;";
+    private static final String LOOSE = "place p;vane a teeth 8 at p;vane b teeth 8 at p;gear g of a b slack 3;belt h of a b slack 5;";
 
     public static void main(String[] args) {
         tape();
+        textsEndWhereTheyEnd();
         villageAsksForBytes();
         villageTaken();
         tokensNeedNoBlanks();
@@ -34,6 +36,30 @@ public final class TextsTest {
         Check.due("the tape is empty", x.feed(0, 0, 0, 0, 0), 20);
         Check.gives(x, "the first bytes alone", x.village(0), 0);
         Check.due("the tape is empty", x.feed(0, 0, 0, 0, 0), 20);
+    }
+
+    private static void textsEndWhereTheyEnd() {
+        VaneTown x = new VaneTown();
+        Check.feed(x, "place pqrs;");
+        Check.refuses(x, "a word cut short", x.village(8), 9);
+        Check.due("at its end", x.fault(1), 8);
+        Check.feed(x, "place p;vane a teeth 89 at p;");
+        Check.refuses(x, "a number cut short", x.village(22), 9);
+        Check.due("the end, not 89", x.fault(0), 2);
+        Check.due("at its end", x.fault(1), 22);
+        Check.feed(x, "place pppppppp" + "p".repeat(886));
+        Check.refuses(x, "900 bytes, a word at the end", x.village(900), 9);
+        Check.due("a long word", x.fault(1), 6);
+        Check.feed(x, "1".repeat(900));
+        Check.refuses(x, "900 digits", x.village(900), 9);
+        Check.due("no number", x.fault(0), 1);
+        Check.feed(x, "place p;" + " ".repeat(884) + "place q;");
+        Check.gives(x, "a semicolon at 899", x.village(900), 0);
+        Check.gives(x, "two places", x.told(0), 2);
+        for (int i = 0; i < 4; i++) {
+            Check.gives(x, "again and again", Check.village(x, "place p;place q;place r;"), 0);
+            Check.gives(x, "three places", x.told(0), 3);
+        }
     }
 
     private static void villageAsksForBytes() {
@@ -193,6 +219,13 @@ public final class TextsTest {
             Check.gives(x, "calm", x.windAt(v, 1), 0);
         }
         Check.refuses(x, "no orders", x.run(0), 6);
+        x = Check.town(LOOSE);
+        x.turn(0, 2);
+        Check.gives(x, "play", x.shaft(0, 4), 2);
+        Check.gives(x, "play", x.shaft(1, 4), 2);
+        Check.gives(x, "taken again", Check.village(x, LOOSE), 2);
+        Check.gives(x, "no play", x.shaft(0, 4), 0);
+        Check.gives(x, "no play", x.shaft(1, 4), 0);
     }
 
     private static void ordersTaken() {
