@@ -35,8 +35,8 @@ public final class VaneTown {
     private long bottom = 1;
     private final Tray[] trays = new Tray[MOST_TRAYS];
     private final Text text = new Text();
-    private final VillageReader villageReader = new VillageReader(text);
-    private final OrdersReader ordersReader = new OrdersReader(text);
+    private final VillageReader villageReader = new VillageReader();
+    private final OrdersReader ordersReader = new OrdersReader();
     private int faultKind = NONE;
     private int faultPlace = NONE;
     private final Town now = new Town();
@@ -136,7 +136,7 @@ public final class VaneTown {
             return none(NO_NUMBER);
         }
         text.open(n);
-        boolean isTaken = villageReader.readAll(sparePlan);
+        boolean isTaken = villageReader.readAll(text, sparePlan);
         closeText();
         if (!isTaken) {
             return none(FAULT);
@@ -154,7 +154,7 @@ public final class VaneTown {
             return none(NO_NUMBER);
         }
         text.open(n);
-        boolean isTaken = ordersReader.readAll(now.plan, spareOrders);
+        boolean isTaken = ordersReader.readAll(text, now.plan, spareOrders);
         closeText();
         if (!isTaken) {
             return none(FAULT);
@@ -1309,14 +1309,11 @@ public final class VaneTown {
 
     /** Reads a VILLAGE's text to a plan. */
     private static final class VillageReader {
-        private final Text text;
+        private Text text;
         private Plan plan;
 
-        VillageReader(Text text) {
-            this.text = text;
-        }
-
-        boolean readAll(Plan into) {
+        boolean readAll(Text from, Plan into) {
+            text = from;
             plan = into;
             plan.clear();
             // A PART takes more than one byte, so that there are fewer PARTS than bytes.
@@ -1406,17 +1403,14 @@ public final class VaneTown {
     private static final class OrdersReader {
         private static final int MOST_OPEN = 3;
 
-        private final Text text;
+        private Text text;
         private Plan plan;
         private Steps steps;
         private final int[] open = new int[MOST_OPEN];
         private int opened;
 
-        OrdersReader(Text text) {
-            this.text = text;
-        }
-
-        boolean readAll(Plan names, Steps into) {
+        boolean readAll(Text from, Plan names, Steps into) {
+            text = from;
             plan = names;
             steps = into;
             steps.clear();
