@@ -10,6 +10,7 @@ public final class DoneTest {
         passTurns();
         shorterWay();
         windsOfDraggedOnes();
+        calmAndRightOnesDoNothing();
         heldAndBlocked();
         oneVaneBehindTheOther();
         bellsStrike();
@@ -145,6 +146,26 @@ public final class DoneTest {
         Check.gives(x, "what b wants", x.wants(1), 2);
         Check.gives(x, "what a drags", x.drags(0, 1), 3);
         Check.gives(x, "b, as far from it as before, is no matter for a", x.firstToTurn(), 0);
+    }
+
+    private static void calmAndRightOnesDoNothing() {
+        VaneTown x = Check.town(PAIR + "belt h of a b;");
+        x.wind(1, 4, 9);
+        x.pass(1);
+        Check.gives(x, "b by itself, not by a at calm", x.vane(1, 3), 1);
+        Check.gives(x, "a dragged", x.vane(0, 3), 1);
+        x = Check.town(PAIR + "gear g of a b;");
+        x.wind(1, 12, 9);
+        x.pass(1);
+        Check.gives(x, "to the left, too", x.vane(1, 3), 7);
+        x = Check.town(PAIR + "belt h of a b;");
+        x.wind(0, 0, 1);
+        x.wind(1, 4, 9);
+        x.pass(1);
+        Check.gives(x, "nor by a that is right", x.vane(1, 3), 1);
+        x.hold(1, true);
+        x.pass(1);
+        Check.gives(x, "a can't go back", x.vane(0, 3), 1);
     }
 
     private static void heldAndBlocked() {

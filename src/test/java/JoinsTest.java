@@ -83,6 +83,8 @@ public final class JoinsTest {
         Check.gives(x, "two shafts of two vanes", x.locked(), 3);
         x = Check.town(FIVE + "gear g of a b;gear h of b c;belt i of c a;");
         Check.gives(x, "two gears in a ring", x.locked(), 0);
+        x = Check.town(FIVE + "gear g of c b;gear h of a b;gear i of a c;");
+        Check.gives(x, "the ring is closed by the first", x.locked(), 7);
         Check.gives(x, "of nothing", new VaneTown().locked(), 0);
     }
 
@@ -96,6 +98,7 @@ public final class JoinsTest {
         Check.refuses(x, "with others", x.common(32), 1);
         Check.refuses(x, "with others", x.common(33), 1);
         Check.refuses(x, "below 0", x.common(-1), 1);
+        Check.gives(x, "7", x.common(16), 7);
         Check.refuses(x, "least", x.common(Integer.MIN_VALUE), 1);
         StringBuilder text = new StringBuilder("place p;");
         int[] teeth = {59, 58, 57, 55, 53, 49, 47, 43};

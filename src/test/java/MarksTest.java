@@ -6,6 +6,7 @@ public final class MarksTest {
         atMostThree();
         allIsTakenBack();
         anotherVillage();
+        allOfAVillage();
         ordersOfAllKinds();
         whatStays();
         Check.end("MarksTest");
@@ -88,6 +89,39 @@ public final class MarksTest {
         Check.gives(x, "teeth", x.vane(1, 0), 8);
     }
 
+    private static void allOfAVillage() {
+        VaneTown x = Check.town("place p;place q;vane a teeth 8 at q stiff 3;vane b teeth 9 at p;vane c teeth 7 at q;"
+                + "gear g of b a slack 3;belt h of c b slack 2;");
+        x.mark();
+        Check.gives(x, "unlike in all", Check.village(x, "place r;vane d teeth 20 at r stiff 9;vane e teeth 21 at r;"
+                + "vane f teeth 22 at r;vane i teeth 23 at r;belt j of d e slack 7;gear k of d f slack 8;gear l of f i;"), 4);
+        x.mark();
+        Check.gives(x, "none", Check.village(x, ""), 0);
+        Check.gives(x, "back", x.back(), 1);
+        village(x, new int[][] {{20, 0, 9}, {21, 0, 0}, {22, 0, 0}, {23, 0, 0}},
+                new int[][] {{0, 1, 1, 7}, {0, 2, 0, 8}, {2, 3, 0, 0}});
+        Check.ordersTaken(x, "wind r 0 0;hold i;lift l;", 3);
+        Check.gives(x, "back", x.back(), 0);
+        village(x, new int[][] {{8, 1, 3}, {9, 0, 0}, {7, 1, 0}}, new int[][] {{1, 0, 0, 3}, {2, 1, 1, 2}});
+        Check.ordersFault(x, "wind r 0 0;", 3, 5);
+        Check.ordersTaken(x, "wind p 0 0;wind q 0 0;hold c;lift g;lift h;", 5);
+    }
+
+    private static void village(VaneTown x, int[][] vanes, int[][] shafts) {
+        Check.gives(x, "vanes", x.told(1), vanes.length);
+        Check.gives(x, "shafts", x.told(2), shafts.length);
+        for (int v = 0; v < vanes.length; v++) {
+            for (int what = 0; what < 3; what++) {
+                Check.gives(x, "vane " + v + ", " + what, x.vane(v, what), vanes[v][what]);
+            }
+        }
+        for (int s = 0; s < shafts.length; s++) {
+            for (int what = 0; what < 4; what++) {
+                Check.gives(x, "shaft " + s + ", " + what, x.shaft(s, what), shafts[s][what]);
+            }
+        }
+    }
+
     private static void ordersOfAllKinds() {
         VaneTown x = Check.town(PAIR);
         Check.ordersTaken(x, "loop 2;wind p 4 9;wait 9;when points a<3;turn a 1;end;end;lift h;hold a;turn b 3;", 8);
@@ -96,7 +130,7 @@ public final class MarksTest {
         Check.gives(x, "b", x.ranTo(1), 6);
         x.mark();
         for (int i = 0; i < 2; i++) {
-            Check.ordersTaken(x, "wait 1;wind q 8 1;when right b;wait 1;wait 1;loop 3;end;end;wait 5;wait 6;", 8);
+            Check.ordersTaken(x, "turn b 1;wind q 8 1;when right b;turn b 2;wait 1;loop 3;end;end;hold b;free b;", 8);
         }
         Check.gives(x, "others", x.run(0), 5);
         Check.gives(x, "back", x.back(), 0);

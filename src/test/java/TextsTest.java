@@ -57,8 +57,9 @@ public final class TextsTest {
         Check.gives(x, "a semicolon at 899", x.village(900), 0);
         Check.gives(x, "two places", x.told(0), 2);
         for (int i = 0; i < 4; i++) {
-            Check.gives(x, "again and again", Check.village(x, "place p;place q;place r;"), 0);
-            Check.gives(x, "three places", x.told(0), 3);
+            Check.gives(x, "again and again", Check.village(x, LOOSE), 2);
+            Check.gives(x, "a place", x.told(0), 1);
+            Check.gives(x, "two shafts", x.told(2), 2);
         }
     }
 
@@ -125,6 +126,9 @@ public final class TextsTest {
         Check.villageFault("place  \n", 2, 8);
         Check.villageFault("place p q;.", 2, 8);
         Check.villageFault("places p;", 2, 0);
+        Check.villageFault("place ;", 2, 6);
+        Check.villageFault("place p;vane teeth 8 at p;", 2, 13);
+        Check.villageFault(TWO + "belt of a b;", 2, TWO.length() + 5);
         Check.villageFault("wind p;", 2, 0);
         Check.villageFault("place p;vane a teeth 8 at p points 3 stiff 2;", 2, 37);
         Check.villageFault("place p;vane a teeth 8 at p stiff 2 stiff 2;", 2, 36);
@@ -221,9 +225,13 @@ public final class TextsTest {
         Check.refuses(x, "no orders", x.run(0), 6);
         x = Check.town(LOOSE);
         x.turn(0, 2);
+        x.turn(0, -2);
+        Check.gives(x, "struck", x.vane(0, 5), 1);
+        x.turn(0, 2);
         Check.gives(x, "play", x.shaft(0, 4), 2);
         Check.gives(x, "play", x.shaft(1, 4), 2);
         Check.gives(x, "taken again", Check.village(x, LOOSE), 2);
+        Check.gives(x, "not struck", x.vane(0, 5), 0);
         Check.gives(x, "no play", x.shaft(0, 4), 0);
         Check.gives(x, "no play", x.shaft(1, 4), 0);
     }
@@ -252,6 +260,8 @@ public final class TextsTest {
         Check.ordersFault(x, "loop 1;end;end;", 2, 11);
         Check.ordersFault(x, "loop 1;stop; ", 2, 13);
         Check.ordersFault(x, "when right a;end", 2, 16);
+        Check.ordersFault(x, "loop 1;end stop;", 2, 11);
+        Check.ordersFault(x, "loop 1 stop;end;", 2, 7);
         Check.ordersFault(x, "place r;", 2, 0);
         Check.ordersFault(x, "points a;", 2, 0);
         Check.ordersFault(x, "when points a;", 2, 13);
@@ -356,6 +366,10 @@ public final class TextsTest {
             Check.gives(x, "60 teeth right, " + d, x.right(1), d == 15 ? 1 : 0);
             Check.gives(x, "7 teeth right, " + d, x.right(2), d == 6 || d == 7 ? 1 : 0);
         }
+        x.wind(1, 6, 9);
+        Check.gives(x, "right at once", x.right(2), 1);
+        x.wind(1, 9, 9);
+        Check.gives(x, "wrong at once", x.right(2), 0);
         x.wind(1, 3, 0);
         Check.refuses(x, "calm again", x.wants(2), 6);
         Check.gives(x, "its direction is kept", x.windAt(1, 0), 3);

@@ -48,10 +48,12 @@ public final class TraysTest {
         Check.gives(x, "the last", x.read(3, 59), 0);
         Check.refuses(x, "behind the last", x.read(3, 60), 3);
         Check.takes(x, "write", x.write(3, 59, 7));
+        Check.takes(x, "write", x.write(3, 0, 7));
         Check.refuses(x, "a tray that can't be", x.tray(3, 3, 61), 1);
         Check.gives(x, "it stays", x.read(3, 59), 7);
         Check.takes(x, "laid again", x.tray(3, 0, 60));
         Check.gives(x, "all 0 again", x.read(3, 59), 0);
+        Check.gives(x, "all 0 again", x.read(3, 0), 0);
     }
 
     private static void numbersAreCut() {
