@@ -2,15 +2,21 @@
 final class Check {
     private static int wrong = 0;
     private static int asked = 0;
+    private static String why = "";
 
     private Check() {
+    }
+
+    /** Why the answers from here on are asked for; it is printed with each that is not as due. */
+    static void because(String reason) {
+        why = reason;
     }
 
     static void due(String call, long got, long want) {
         asked++;
         if (got != want) {
             wrong++;
-            System.out.println(call + " answered " + got + ", due is " + want);
+            System.out.println(why + call + " answered " + got + ", due is " + want);
         }
     }
 
