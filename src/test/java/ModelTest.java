@@ -2,8 +2,12 @@ import java.util.Random;
 
 /** All promises: random runs of calls, each answered as the plain model answers it. */
 public final class ModelTest {
-    private static final int RUNS = 1500;
-    private static final int CALLS = 200;
+    private static final int RUNS = 6000;
+    /** An object is promised to answer so many calls, of which the last ones look at all that can be seen. */
+    private static final int MOST_CALLS = 512;
+    private static final int CALLS_TO_SEE_ALL = 104;
+    /** What one kind of call below may come to, with the texts or numbers that it needs: no more than this. */
+    private static final int CALLS_OF_ONE_KIND = 140;
 
     private final Random random;
     private final VaneTown x = new VaneTown();
@@ -12,6 +16,7 @@ public final class ModelTest {
     private int places;
     private int vanes;
     private int shafts;
+    private int asked;
 
     private ModelTest(int run) {
         this.run = run;
@@ -63,10 +68,15 @@ public final class ModelTest {
     }
 
     private void same(String call, long got, long want) {
+        asked += 2;
         Check.due("run " + run + ": " + call, got, want);
         Check.due("run " + run + ": " + call + ", status()", x.status(), m.status);
-        Check.due("run " + run + ": " + call + ", top()", x.top(), m.top);
-        Check.due("run " + run + ": " + call + ", bottom()", x.bottom(), m.bottom);
+    }
+
+    private void sameFraction() {
+        asked += 2;
+        Check.due("run " + run + ": top()", x.top(), m.top);
+        Check.due("run " + run + ": bottom()", x.bottom(), m.bottom);
     }
 
     private static int b(boolean is) {
@@ -75,24 +85,26 @@ public final class ModelTest {
 
     private void calls() {
         readVillage(villageText());
-        for (int i = 0; i < CALLS; i++) {
+        while (asked <= MOST_CALLS - CALLS_TO_SEE_ALL - CALLS_OF_ONE_KIND) {
             call(up(69));
+            sameFraction();
         }
         allVisible();
     }
 
     private void allVisible() {
+        String when = "run " + run + ": at its end, ";
         for (int what = 0; what <= 5; what++) {
-            same("told", x.told(what), m.told(what));
+            Check.due(when + "told", x.told(what), m.told(what));
         }
         for (int v = 0; v < 8; v++) {
             for (int what = 0; what <= 5; what++) {
-                same("vane", x.vane(v, what), m.vane(v, what));
+                Check.due(when + "vane", x.vane(v, what), m.vane(v, what));
             }
         }
         for (int s = 0; s < 10; s++) {
             for (int what = 0; what <= 4; what++) {
-                same("shaft", x.shaft(s, what), m.shaft(s, what));
+                Check.due(when + "shaft", x.shaft(s, what), m.shaft(s, what));
             }
         }
     }
