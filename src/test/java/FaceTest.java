@@ -40,6 +40,10 @@ public final class FaceTest {
             Check.due(method + " is of the face", face.contains(method), true);
         }
         othersArePrivate(publicNames);
+        fields(VaneTown.class);
+        for (Class<?> inner : VaneTown.class.getDeclaredClasses()) {
+            fields(inner);
+        }
         Check.due("the class is public and final", VaneTown.class.getModifiers(), Modifier.PUBLIC | Modifier.FINAL);
         Check.due("NONE", VaneTown.NONE, -1);
         Check.end("FaceTest");
@@ -51,6 +55,22 @@ public final class FaceTest {
             types.append(types.length() == 0 ? "" : ",").append(type.getName());
         }
         return method.getReturnType().getName() + " " + method.getName() + "(" + types + ")";
+    }
+
+    /** Rules 5 and 11 of ../shared/LANGUAGE.md. */
+    private static void fields(Class<?> type) {
+        Set<Class<?>> constants = Set.of(int.class, long.class, boolean.class, char.class, String.class, int[].class,
+                long[].class, char[].class, byte[].class);
+        int own = 0;
+        for (Field field : type.getDeclaredFields()) {
+            if (Modifier.isStatic(field.getModifiers())) {
+                Check.due(field + " is final", Modifier.isFinal(field.getModifiers()), true);
+                Check.due(field + " is a constant", constants.contains(field.getType()), true);
+            } else {
+                own++;
+            }
+        }
+        Check.due(type + " has some twenty fields", own <= 20, true);
     }
 
     private static void othersArePrivate(Set<String> publicNames) {
